@@ -21,6 +21,7 @@ public final class DoubtTime {
     private static final int CHANGES = 6;
     private static final int LETTERS = 200;
     private static final int FIGURES = 19;
+    private static final long LAST_NUMBER = 9223372036854775807L;
     private static final int MOST_NUMBERS = 4;
     private static final int LAST_DRIFT = 999999;
     private static final int LAST_VALUE = 999999;
@@ -440,7 +441,7 @@ public final class DoubtTime {
             char letter = text.letterAt(behind);
             while (figures < FIGURES && letter >= '0' && letter <= '9') {
                 int figure = letter - '0';
-                if (number > (Long.MAX_VALUE - figure) / 10) {
+                if (number > (LAST_NUMBER - figure) / 10) {
                     return false;
                 }
                 number = number * 10 + figure;
@@ -614,7 +615,7 @@ public final class DoubtTime {
          * the next end none can begin, since then more than the most would hold a TICK.
          */
         long endOfRow() {
-            long end = begin - 1;
+            long end = begin;
             for (int i = 0; i < heard && howManyHold(end + 1) == most; i++) {
                 end = leastEndOver(end + 1);
             }
@@ -623,7 +624,7 @@ public final class DoubtTime {
 
         /** The least end of the SPANS that hold a TICK, which at least one does. */
         private long leastEndOver(long tick) {
-            long least = Long.MAX_VALUE;
+            long least = LAST_NUMBER;
             for (int i = 0; i < heard; i++) {
                 if (begins[i] <= tick && ends[i] >= tick) {
                     least = Math.min(least, ends[i]);

@@ -12,6 +12,7 @@ public final class CommitsTest {
         waitingZero();
         waitingForGood();
         safe();
+        safeOfOne();
         safeBelowZero();
         read();
         between();
@@ -185,6 +186,19 @@ public final class CommitsTest {
         CHECK.due(20, "not GOOD and no COMMITS", y.safe(), Check.LONG_NONE);
         y.strike(0, 1);
         CHECK.due(20, "GOOD", y.safe(), 7);
+    }
+
+    private static void safeOfOne() {
+        DoubtTime x = Check.laid("d0;m0,100,110;");
+        x.commit(0, 0);
+        x.go(20);
+        CHECK.due(20, "begin less 1", x.safe(), 119);
+        x.tell(0, 50, 60);
+        CHECK.due(20, "the one STAMP is more", x.safe(), 110);
+        x.tell(1, 500, 600);
+        CHECK.due(20, "the one STAMP alone", x.safe(), 110);
+        CHECK.due(21, "read at it", x.read(0, 110), 0);
+        CHECK.due(21, "read above it", x.read(0, 111), DoubtTime.NO);
     }
 
     private static void safeBelowZero() {

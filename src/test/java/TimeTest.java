@@ -1,3 +1,5 @@
+import java.util.Random;
+
 /** Promises 12 to 16: span, agreed, good, in, liars. */
 public final class TimeTest {
     private static final Check CHECK = new Check("TimeTest");
@@ -5,11 +7,13 @@ public final class TimeTest {
     public static void main(String[] args) {
         span();
         spanRounding();
+        spanLeast();
         spanFar();
         agreed();
         agreedGoesOn();
         agreedFirst();
         agreedWidens();
+        agreedByCounting();
         good();
         in();
         liars();
@@ -51,6 +55,21 @@ public final class TimeTest {
         x.tell(0, 5, 9);
         CHECK.due(12, "begin as told", x.span(0, 0), 5);
         CHECK.due(12, "end as told", x.span(0, 1), 9);
+    }
+
+    /** However little it is, it is rounded up to a whole TICK. */
+    private static void spanLeast() {
+        DoubtTime x = Check.laid("d1;m0,10,10;");
+        x.go(1);
+        CHECK.due(12, "a millionth: begin", x.span(0, 0), 10);
+        CHECK.due(12, "a millionth: end", x.span(0, 1), 12);
+        DoubtTime y = Check.laid("d200000;m0,10,10;");
+        y.go(5);
+        CHECK.due(12, "just 1: begin", y.span(0, 0), 14);
+        CHECK.due(12, "just 1: end", y.span(0, 1), 16);
+        y.drift(200001);
+        CHECK.due(12, "a little more than 1: begin", y.span(0, 0), 13);
+        CHECK.due(12, "a little more than 1: end", y.span(0, 1), 17);
     }
 
     private static void spanFar() {
@@ -118,6 +137,36 @@ public final class TimeTest {
         CHECK.due(13, "begin at 11", x.agreed(0), 27);
         CHECK.due(13, "end at 11", x.agreed(1), 27);
         CHECK.due(13, "in(27)", x.in(27), 3);
+    }
+
+    /** Every TICK is asked for in how many SPANS it is, and AGREED read off that. */
+    private static void agreedByCounting() {
+        Random random = new Random(5);
+        for (int run = 0; run < 2000; run++) {
+            DoubtTime x = new DoubtTime();
+            for (int m = 0; m < 6; m++) {
+                int low = random.nextInt(30);
+                x.tell(m, low, low + random.nextInt(12));
+            }
+            x.strike(random.nextInt(6), 1);
+            x.drift(random.nextInt(1000000));
+            x.go(1 + random.nextInt(9));
+            int most = 0;
+            for (int tick = 0; tick < 80; tick++) {
+                most = Math.max(most, x.in(tick));
+            }
+            int begin = 0;
+            while (x.in(begin) < most) {
+                begin++;
+            }
+            int end = begin;
+            while (x.in(end + 1) == most) {
+                end++;
+            }
+            CHECK.due(13, "agreed(0) of run " + run, x.agreed(0), begin);
+            CHECK.due(13, "agreed(1) of run " + run, x.agreed(1), end);
+            CHECK.due(14, "good() of run " + run, x.good(), most > 2.5 ? 1 : 0);
+        }
     }
 
     private static void good() {
