@@ -138,6 +138,8 @@ public final class CommitsTest {
         CHECK.due(19, "begin at the stamp", x.waiting(0), 1);
         x.tell(0, 111, 120);
         CHECK.due(19, "begin above the stamp", x.waiting(0), 0);
+        x.tell(0, 500, 600);
+        CHECK.due(19, "begin far above the stamp", x.waiting(0), 0);
         CHECK.due(19, "OPEN yet", x.commitOf(0, 4), DoubtTime.NONE);
         CHECK.due(19, "go(1)", x.go(1), 1);
         CHECK.due(19, "DONE", x.waiting(0), DoubtTime.NO);

@@ -94,7 +94,8 @@ public final class LanguageTest {
     private static void words() throws Exception {
         String code = code();
         String[] ruledOut = {"throw", "throws", "try", "catch", "synchronized", "assert", "import", "package",
-            "volatile", "\\w*Exact", "Long\\.[A-Z_]+", "Integer\\.[A-Z_]+", "System\\.(?!arraycopy)\\w+", "Random", "Thread", "Object", "hashCode", "toString",
+            "volatile", "\\w*Exact", "Long\\.[A-Z_]+", "Integer\\.[A-Z_]+",
+            "System\\.(?!arraycopy)\\w+", "Random", "Thread", "Object", "hashCode", "toString",
             "var", "transient", "native", "double", "float"};
         for (String word : ruledOut) {
             Matcher found = Pattern.compile("\\b" + word + "\\b").matcher(code);
