@@ -14,10 +14,14 @@ final class Check {
     }
 
     void due(int promise, String call, long got, long want) {
+        due("promise " + promise, call, got, want);
+    }
+
+    void due(String of, String call, long got, long want) {
         calls++;
         if (got != want) {
             wrong++;
-            System.out.println(test + ", promise " + promise + ": " + call + " answered " + got + ", due is " + want);
+            System.out.println(test + ", " + of + ": " + call + " answered " + got + ", due is " + want);
         }
     }
 

@@ -6,6 +6,7 @@ import java.lang.reflect.Modifier;
 import java.nio.charset.StandardCharsets;
 import java.nio.file.Files;
 import java.nio.file.Path;
+import java.util.ArrayList;
 import java.util.Arrays;
 import java.util.List;
 import java.util.TreeSet;
@@ -27,6 +28,7 @@ public final class LanguageTest {
     public static void main(String[] args) throws Exception {
         face();
         ownClasses();
+        fields();
         words();
         lengths();
         CHECK.end();
@@ -83,6 +85,20 @@ public final class LanguageTest {
                 CHECK.isTrue(method + " bears no name of the face", Arrays.stream(FACE)
                     .noneMatch(f -> f.contains(" " + method.getName() + "(")));
             }
+        }
+    }
+
+    private static void fields() {
+        List<Class<?>> all = new ArrayList<>(List.of(DoubtTime.class.getDeclaredClasses()));
+        all.add(DoubtTime.class);
+        for (Class<?> type : all) {
+            int ofObjects = 0;
+            for (Field field : type.getDeclaredFields()) {
+                boolean isStatic = Modifier.isStatic(field.getModifiers());
+                CHECK.isTrue(field + " is final, if static", !isStatic || Modifier.isFinal(field.getModifiers()));
+                ofObjects += isStatic ? 0 : 1;
+            }
+            CHECK.isTrue(type + " has twenty fields at most", ofObjects <= 20);
         }
     }
 

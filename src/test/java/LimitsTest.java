@@ -82,13 +82,13 @@ public final class LimitsTest {
     /** As late as 512 calls can bring it, with the latest that a MASTER can tell. */
     private static void farEnds() {
         DoubtTime x = Check.laid("d999999;m0,1000000000000,1000000000000;");
-        for (int i = 0; i < 470; i++) {
+        for (int i = 0; i < 460; i++) {
             x.go(5000);
         }
         CHECK.due(12, "begin", x.span(0, 0), Check.BILLIONS + 2);
-        CHECK.due(12, "end", x.span(0, 1), Check.BILLIONS + 2 * 2350000L - 2);
+        CHECK.due(12, "end", x.span(0, 1), Check.BILLIONS + 2 * 2300000L - 2);
         CHECK.due(17, "commit", x.commit(0, 1), 0);
-        CHECK.due(18, "its STAMP", x.commitOf(0, 2), Check.BILLIONS + 2 * 2350000L - 2);
+        CHECK.due(18, "its STAMP", x.commitOf(0, 2), Check.BILLIONS + 2 * 2300000L - 2);
         CHECK.due(19, "waiting", x.waiting(0), DoubtTime.NONE);
         CHECK.due(15, "in", x.in(Check.BILLIONS + 2), 1);
     }
@@ -109,15 +109,25 @@ public final class LimitsTest {
         CHECK.isTrue("calls make no objects, but " + made + " bytes", made < 10000);
     }
 
+    /** Six MASTERS HEARD and 16 COMMITS that stay OPEN; 22 calls. */
+    private static DoubtTime dear() {
+        DoubtTime x = new DoubtTime();
+        for (int m = 0; m < 6; m++) {
+            x.tell(m, m, 1000000000);
+        }
+        for (int c = 0; c < 16; c++) {
+            x.commit(0, c);
+        }
+        return x;
+    }
+
     private static void dearRuns() {
         long start = System.nanoTime();
-        DoubtTime x = full("d999999;m0,0,1000000000;m1,1,1000000000;m2,2,1000000000;"
-            + "m3,3,1000000000;m4,4,1000000000;m5,5,1000000000;");
-        for (int i = 0; i < 480; i++) {
+        DoubtTime x = dear();
+        DoubtTime y = dear();
+        for (int i = 0; i < 490; i++) {
             CHECK.due(10, "go(5000)", x.go(5000), 0);
-        }
-        for (int i = 0; i < 480; i++) {
-            CHECK.due(19, "waiting(15)", x.waiting(15), DoubtTime.NONE);
+            CHECK.due(19, "waiting(15)", y.waiting(15), DoubtTime.NONE);
         }
         long millis = (System.nanoTime() - start) / 1000000;
         CHECK.isTrue("dear runs end soon, but took " + millis + " ms", millis < 30000);
