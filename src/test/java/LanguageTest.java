@@ -1,3 +1,4 @@
+import java.io.IOException;
 import java.lang.reflect.Constructor;
 import java.lang.reflect.Field;
 import java.lang.reflect.Member;
@@ -7,56 +8,44 @@ import java.nio.charset.StandardCharsets;
 import java.nio.file.Files;
 import java.nio.file.Path;
 import java.util.ArrayList;
-import java.util.Arrays;
 import java.util.List;
+import java.util.Set;
 import java.util.TreeSet;
-import java.util.regex.Matcher;
-import java.util.regex.Pattern;
+import java.util.stream.Stream;
 
-/** The document's face, and those rules of LANGUAGE.md that can be looked up in the file. */
+/** The face as the document has it, and those rules of LANGUAGE.md that can be looked up in the file. */
 public final class LanguageTest {
     private static final Check CHECK = new Check("LanguageTest");
-    private static final String FILE = "src/main/java/DoubtTime.java";
-    private static final String[] FACE = {
-        "int write(int)", "int wipe()", "int fault()", "int lay()", "int tell(int,long,long)",
-        "int strike(int,int)", "int strikeLiars()", "int drift(int)", "int go(int)", "int undo()",
-        "long span(int,int)", "long agreed(int)", "int good()", "int in(long)", "int liars()",
-        "int commit(int,int)", "long commitOf(int,int)", "int waiting(int)", "long safe()",
-        "int read(int,long)", "int between(int,long,long)", "long leap(int)", "long smeared(long)",
-        "long back(long)", "int count(int)"};
+    private static final Path FILE = Path.of("src/main/java/DoubtTime.java");
 
     public static void main(String[] args) throws Exception {
-        face();
-        ownClasses();
-        fields();
-        words();
-        lengths();
+        methods();
+        constants();
+        constructor();
+        names();
+        file();
+        rules();
+        rulesAreSeen();
         CHECK.end();
     }
 
-    private static void face() {
-        Class<?> type = DoubtTime.class;
-        CHECK.isTrue("public and final", Modifier.isPublic(type.getModifiers()) && Modifier.isFinal(type.getModifiers()));
+    private static void methods() throws IOException {
         TreeSet<String> methods = new TreeSet<>();
-        for (Method method : type.getDeclaredMethods()) {
-            if (isFace(method)) {
+        for (Method method : DoubtTime.class.getDeclaredMethods()) {
+            if (isSeen(method)) {
                 methods.add(signature(method));
+                CHECK.isTrue(method + " is public, and no more", method.getModifiers() == Modifier.PUBLIC);
             }
         }
-        CHECK.isTrue("the methods of the document: " + methods, methods.equals(new TreeSet<>(Arrays.asList(FACE))));
-        TreeSet<String> fields = new TreeSet<>();
-        for (Field field : type.getDeclaredFields()) {
-            if (isFace(field)) {
-                fields.add(field.getName());
-            }
+        TreeSet<String> face = new TreeSet<>();
+        for (String method : Document.faceMethods()) {
+            face.add(method.replaceAll(" \\w+(?=[,)])", "").replace(", ", ","));
         }
-        CHECK.isTrue("the constants: " + fields, fields.equals(new TreeSet<>(List.of("BAD", "NO", "FULL", "NONE"))));
-        Constructor<?>[] constructors = type.getDeclaredConstructors();
-        CHECK.isTrue("one constructor", constructors.length == 1 && constructors[0].getParameterCount() == 0
-            && Modifier.isPublic(constructors[0].getModifiers()));
+        CHECK.isTrue("the methods of the document: " + methods + ", not " + face, methods.equals(face));
+        CHECK.isTrue("methods were found: " + face.size(), face.size() == 25);
     }
 
-    private static boolean isFace(Member member) {
+    private static boolean isSeen(Member member) {
         return !Modifier.isPrivate(member.getModifiers()) && !member.isSynthetic();
     }
 
@@ -68,75 +57,86 @@ public final class LanguageTest {
         return out.append(")").toString();
     }
 
-    private static void ownClasses() {
-        Class<?>[] own = DoubtTime.class.getDeclaredClasses();
-        CHECK.isTrue("at most twelve classes", own.length + 1 <= 12);
-        for (Class<?> type : own) {
-            CHECK.isTrue(type + " is static", Modifier.isStatic(type.getModifiers()));
-            CHECK.isTrue(type + " is not public", !Modifier.isPublic(type.getModifiers()));
-            for (Method method : type.getDeclaredMethods()) {
-                CHECK.isTrue(method + " bears no name of the face", Arrays.stream(FACE)
-                    .noneMatch(f -> f.contains(" " + method.getName() + "(")));
-                CHECK.isTrue(method + " has seven parameters at most", method.getParameterCount() <= 7);
+    private static void constants() throws Exception {
+        TreeSet<String> constants = new TreeSet<>();
+        for (Field field : DoubtTime.class.getDeclaredFields()) {
+            if (isSeen(field)) {
+                CHECK.isTrue(field + " is a constant", field.toString().startsWith("public static final int "));
+                constants.add(field.getName() + " = " + field.getInt(null));
             }
         }
-        for (Method method : DoubtTime.class.getDeclaredMethods()) {
-            if (!isFace(method)) {
-                CHECK.isTrue(method + " bears no name of the face", Arrays.stream(FACE)
-                    .noneMatch(f -> f.contains(" " + method.getName() + "(")));
-            }
-        }
+        TreeSet<String> face = new TreeSet<>(Document.faceConstants());
+        CHECK.isTrue("the constants of the document: " + constants + ", not " + face, constants.equals(face));
+        CHECK.isTrue("constants were found: " + face.size(), face.size() == 4);
     }
 
-    private static void fields() {
+    private static void constructor() {
+        Class<?> type = DoubtTime.class;
+        CHECK.isTrue("public and final", type.getModifiers() == (Modifier.PUBLIC | Modifier.FINAL));
+        Constructor<?>[] constructors = type.getDeclaredConstructors();
+        CHECK.isTrue("one constructor", constructors.length == 1 && constructors[0].getParameterCount() == 0
+            && Modifier.isPublic(constructors[0].getModifiers()));
+    }
+
+    /** No method but those of the face bears a name of the face, in the classes inside, too. */
+    private static void names() throws IOException {
+        Set<String> face = new TreeSet<>();
+        for (String method : Document.faceMethods()) {
+            face.add(method.replaceAll("^\\w+ (\\w+)\\(.*", "$1"));
+        }
         List<Class<?>> all = new ArrayList<>(List.of(DoubtTime.class.getDeclaredClasses()));
         all.add(DoubtTime.class);
         for (Class<?> type : all) {
-            int ofObjects = 0;
-            for (Field field : type.getDeclaredFields()) {
-                boolean isStatic = Modifier.isStatic(field.getModifiers());
-                CHECK.isTrue(field + " is final, if static", !isStatic || Modifier.isFinal(field.getModifiers()));
-                ofObjects += isStatic ? 0 : 1;
-            }
-            CHECK.isTrue(type + " has twenty fields at most", ofObjects <= 20);
-        }
-    }
-
-    private static String code() throws Exception {
-        String text = Files.readString(Path.of(FILE), StandardCharsets.US_ASCII);
-        return text.replaceAll("(?s)/\\*.*?\\*/", "").replaceAll("//[^\n]*", "").replaceAll("\"[^\"\n]*\"", "\"\"");
-    }
-
-    private static void words() throws Exception {
-        String code = code();
-        String[] ruledOut = {"throw", "throws", "try", "catch", "synchronized", "assert", "import", "package",
-            "volatile", "\\w*Exact", "Long\\.[A-Z_]+", "Integer\\.[A-Z_]+",
-            "System\\.(?!arraycopy)\\w+", "Random", "Thread", "Object", "hashCode", "toString",
-            "var", "transient", "native", "double", "float"};
-        for (String word : ruledOut) {
-            Matcher found = Pattern.compile("\\b" + word + "\\b").matcher(code);
-            CHECK.isTrue("no word " + word, !found.find());
-        }
-        CHECK.isTrue("no lambda", !code.contains("->"));
-        CHECK.isTrue("no method reference", !code.contains("::"));
-    }
-
-    /** Methods stay under sixty lines: counted from a line that opens one to the brace of its depth. */
-    private static void lengths() throws Exception {
-        String[] lines = code().split("\n");
-        Pattern opens = Pattern.compile("^( {4}| {8})(?:\\w[\\w\\[\\]]* )+\\w+\\([^;]*\\) \\{$");
-        int methods = 0;
-        for (int i = 0; i < lines.length; i++) {
-            Matcher method = opens.matcher(lines[i]);
-            if (method.find() && !lines[i].trim().startsWith("if") && !lines[i].trim().startsWith("for")) {
-                methods++;
-                int end = i;
-                while (end < lines.length && !lines[end].equals(method.group(1) + "}")) {
-                    end++;
-                }
-                CHECK.isTrue("sixty lines at most: " + lines[i].trim(), end - i + 1 <= 60);
+            for (Method method : type.getDeclaredMethods()) {
+                boolean isOfFace = type == DoubtTime.class && isSeen(method);
+                CHECK.isTrue(method + " bears no name of the face", isOfFace || !face.contains(method.getName()));
             }
         }
-        CHECK.isTrue("methods were found: " + methods, methods >= FACE.length);
+    }
+
+    private static void file() throws IOException {
+        String text = Files.readString(FILE, StandardCharsets.ISO_8859_1);
+        CHECK.isTrue("signs of ASCII alone", text.chars().allMatch(sign -> sign == '\n' || sign >= 32 && sign <= 126));
+        try (Stream<Path> paths = Files.walk(Path.of("src/main"))) {
+            CHECK.isTrue("one file", paths.filter(Files::isRegularFile).count() == 1);
+        }
+    }
+
+    private static void rules() throws IOException {
+        for (String found : LanguageScan.of(FILE)) {
+            CHECK.isTrue(found, false);
+        }
+    }
+
+    /** What is put into the class to break a rule, and the rule: the scan sees it. */
+    private static void rulesAreSeen() throws IOException {
+        String[][] breaks = {
+            {"private class Inner { }", "2"}, {"private Runnable a() { return () -> { }; }", "2"},
+            {"private Object b() { return new Object() { }; }", "2"}, {"private double c = 0;", "3"},
+            {"private long[][][] d = null;", "3"}, {"private State[][] e = null;", "3"},
+            {"private java.util.HashMap<String, String> f = null;", "3"},
+            {"private long g() { return System.nanoTime(); }", "4"},
+            {"private int h() { return Math.addExact(1, 2); }", "4"}, {"private static int i = 0;", "5"},
+            {"private static final State J = null;", "5"}, {"static { }", "5"},
+            {"private void k() { throw new IllegalStateException(); }", "6"},
+            {"private int l() { try { return 1; } finally { } }", "6"}, {"private void m() { assert 1 > 0; }", "6"},
+            {"private void n() { synchronized (this) { } }", "6"},
+            {"private boolean o(String a, String b) { return a == b; }", "6"}, {"public String toString() { return null; }", "6"},
+            {"private void p() { while (true) { } }", "9"}, {"private void q() { for (;;) { } }", "9"},
+            {"private String r(int n) { return \"n\" + n; }", "10"},
+            {"private int s(int a, int b, int c, int d, int e, int f, int g, int h) { return 0; }", "11"},
+            {"private int t() { return t(); }", "11"}, {"private int u() {" + "\n".repeat(60) + "return 0; }", "11"},
+            {"private String v = \"\\u00e9\";", "4"}};
+        String text = Files.readString(FILE, StandardCharsets.US_ASCII);
+        Path folder = Files.createTempDirectory("language");
+        Path broken = folder.resolve("DoubtTime.java");
+        for (String[] one : breaks) {
+            Files.writeString(broken, text.replaceFirst("\n}\\s*$", "\n" + one[0].replace("\\", "\\\\") + "\n}\n"));
+            List<String> found = LanguageScan.of(broken);
+            CHECK.isTrue("rule " + one[1] + " is seen broken by " + one[0].trim() + ", but " + found,
+                found.stream().anyMatch(what -> what.startsWith("rule " + one[1] + ",")));
+        }
+        Files.delete(broken);
+        Files.delete(folder);
     }
 }
