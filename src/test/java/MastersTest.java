@@ -12,6 +12,7 @@ public final class MastersTest {
         goTickByTick();
         goWithoutGood();
         undoEach();
+        undoTellOfEachMaster();
         undoSix();
         undoIsNoChange();
         CHECK.end();
@@ -191,6 +192,27 @@ public final class MastersTest {
         x.tell(1, 1, 2);
         x.undo();
         CHECK.due(11, "when it was told is back, too", x.span(1, 1), 1041);
+    }
+
+    /** What it told before, and when, is back. */
+    private static void undoTellOfEachMaster() {
+        for (int m = 0; m < 6; m++) {
+            DoubtTime x = Check.laid("d0;");
+            x.go(1);
+            x.tell(m, 100 + m, 200 + m);
+            x.go(10);
+            x.tell(m, 7, 8);
+            x.strike(m, 1);
+            CHECK.due(11, "undo() of strike of " + m, x.undo(), 4);
+            CHECK.due(11, "begin as told last by " + m, x.span(m, 0), 7);
+            CHECK.due(11, "undo() of tell by " + m, x.undo(), 3);
+            CHECK.due(11, "begin as told first by " + m, x.span(m, 0), 110 + m);
+            CHECK.due(11, "end as told first by " + m, x.span(m, 1), 210 + m);
+            CHECK.due(11, "undo() of go", x.undo(), 2);
+            CHECK.due(11, "begin as it was told", x.span(m, 0), 100 + m);
+            CHECK.due(11, "undo() of the first tell", x.undo(), 1);
+            CHECK.due(11, "told nothing", x.span(m, 0), Check.LONG_NO);
+        }
     }
 
     private static void undoSix() {
